@@ -472,10 +472,8 @@ public final class PalmsAltered {
             divisor = rest;
             rest = next;
         }
-        if (divisor == 0) {
-            return part == 0 ? above : below;
-        }
-        return (part == 0 ? above : below) / divisor;
+        int term = part == 0 ? above : below;
+        return divisor == 0 ? term : term / divisor;
     }
 
     // ---- fairs
@@ -705,7 +703,7 @@ public final class PalmsAltered {
             return has(hand) && line >= 0 && line < LINES;
         }
 
-        /** All that is the hand's is put anew: undo() may have left an earlier hand's numbers here. */
+        /** How often it shook and its row need no care: they are 0 here, for undo() brings whole arrays back. */
         int admit(int kind, int v, int length) {
             if (hands >= HANDS) {
                 return FULL;
@@ -714,12 +712,8 @@ public final class PalmsAltered {
             hands++;
             kinds[hand] = kind;
             vs[hand] = v;
-            shooks[hand] = 0;
             for (int line = 0; line < LINES; line++) {
                 putLength(hand, line, length);
-            }
-            for (int part = 0; part < PARTS; part++) {
-                putPart(hand, part, 0);
             }
             return hand;
         }
@@ -878,7 +872,8 @@ public final class PalmsAltered {
         private int printLine(int one, int other, int line) {
             int difference = lengthOf(one, line) - lengthOf(other, line);
             int shorter = difference < 0 ? one : other;
-            int more = Math.abs(difference) / Math.max(1, holding.press);
+            int press = holding.press;
+            int more = press > 0 ? Math.abs(difference) / press : 0;
             putLength(shorter, line, lengthOf(shorter, line) + more);
             return more;
         }

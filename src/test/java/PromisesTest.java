@@ -217,6 +217,14 @@ public final class PromisesTest {
             "", "b", "bl", "bless", "bless ", "bless 1", "bless 1 ", "bless 1 h", "bless 1 h=", "bless 1 (h=1",
             "bless 1 !", "bless 1 h=1&", "bless 1 h=1|", "bless 1 h=1;", "room", "room ", "press", "blight 12"};
         for (String text : faulty) due("'" + text + "' that ends too early", build(x, text), -10 - text.length());
+        for (int n = faulty.length - 1; n >= 0; n--) {
+            for (int size = faulty[n].length(); size >= 0; size--) {
+                String text = faulty[n].substring(0, size);
+                if (!text.equals("bless 1 h=1")) {
+                    due("'" + text + "' behind a longer one", build(x, text), -10 - size);
+                }
+            }
+        }
         Object[][] faults = {
             {"x", 0}, {" room 1", 0}, {"Bless 1 h=1", 0}, {"bx", 1}, {"blx", 2}, {"blish", 3}, {"blesx", 4},
             {"bless1 h=1", 5}, {"bless  1 h=1", 6}, {"bless x h=1", 6}, {"bless 1h=1", 7}, {"bless 123 h=1", 8},
@@ -224,7 +232,7 @@ public final class PromisesTest {
             {"bless 1 h=1 ", 11}, {"bless 1 h=1)", 11}, {"bless 1 (h=1;room 1", 12}, {"bless 1 ()", 9},
             {"bless 1 h=1&|", 12}, {"bless 1 h=1||h=1", 12}, {"bless 1 !!!!!h=1", 12}, {"bless 1 (((((h=1", 12},
             {"bless 1 !(!(!", 12}, {"bless 1 !(!((", 12}, {"bless 1 h!1", 9}, {"bless 1 h==1", 10},
-            {"room 1 h=1", 6}, {"room 123", 7}, {"room x", 5}, {"rroom 1", 1}, {"press 1;", 8}, {"press 1,", 7},
+            {"room 1 h=1", 6}, {"room 123", 7}, {"room x", 5}, {"room :", 5}, {"room 1:", 6}, {"room 1/", 6}, {"room /", 5}, {"rroom 1", 1}, {"press 1;", 8}, {"press 1,", 7},
             {"press 1;;", 8}, {"prose 1", 2}, {"press -1", 6}};
         for (Object[] fault : faults) due("'" + fault[0] + "'", build(x, (String) fault[0]), -10 - (Integer) fault[1]);
         due("none so far", x.count(1), 0);
@@ -235,9 +243,13 @@ public final class PromisesTest {
         due("a third digit behind ten", build(x, "press 1;room 2;room 3;room 4;room 5;room 6;room 7;room 8;room 9;room 100"), -10 - 71);
         due("the one that held holds", x.told(1), 47);
         due("the text is empty", x.count(5), 0);
-        due("four about it", build(x, "bless 1 !!!!h=1&((((h=0))))|!(!(h>99))"), 1);
+        String many = "h=9|".repeat(22);
+        due("100 bytes that end too early", build(x, "bless 1 " + many + "h=0|"), -10 - 100);
+        due("100 bytes", build(x, "bless 11 " + many + "h=0"), 1);
+        due("their grace", x.of(0, 20), 11);
+        due("four about it", build(x, "bless 1 !!!!h=1&((((h=0))))|!(!(h>99))"), 2);
         due("without its room", x.told(1), 20);
-        for (int n = 2; n < 6; n++) due("booth", build(x, "bless 0" + n + " h=0"), n);
+        for (int n = 3; n < 6; n++) due("booth", build(x, "bless 0" + n + " h=0"), n);
         due("grace", x.of(0, 20), 5);
         due("a seventh", build(x, "x"), -4);
         due("the text stays", x.count(5), 1);
@@ -279,6 +291,9 @@ public final class PromisesTest {
         build(x, "room 60;press 1;press 0;room 61");
         due("room at most", x.told(1), 60);
         due("press at least", x.told(2), 1);
+        build(x, "room 98");
+        build(x, "room 9");
+        due("room 9", x.told(1), 9);
         build(x, "room 99;room 0;press 99");
         due("room 0", x.told(1), 0);
         due("press 99", x.told(2), 99);
@@ -369,6 +384,7 @@ public final class PromisesTest {
         due("as there is ink", x.pen(0, 9), 1);
         x.ink(0);
         due("no ink", x.pen(0, 9), 0);
+        due("n 1", x.pen(0, 1), 0);
         due("n 0", x.pen(0, 0), -2);
         due("n 10", x.pen(0, 10), -2);
         due("hand", x.pen(1, 0), -1);
@@ -476,6 +492,12 @@ public final class PromisesTest {
         due("k 3", x.shaken(3), -1);
         due("k -2", x.shaken(-2), -1);
         due("nothing changed", x.of(0, 2), 0);
+        PalmsAltered z = with(3, 0, 0, 0);
+        lengths(z, 3, 10, 10, 10);
+        z.book(3, 1, 15);
+        due("two others", z.shaken(0), 13);
+        z.book(2, 2, 29);
+        due("two others, never", z.shaken(0), -5);
         PalmsAltered y = with(3, 6);
         y.book(0, 0, 31);
         due("gloves", y.shaken(-1), -5);
@@ -549,6 +571,9 @@ public final class PromisesTest {
         PalmsAltered x = with(0);
         due("one alone", x.odds(0, 0), no);
         x.hand(0, 0, 10);
+        due("the only two", x.odds(0, 0), 1);
+        due("the only two", x.odds(135, 0), 1);
+        due("the only two", x.odds(136, 0), 0);
         x.hand(0, 0, 20);
         x.hand(3, 0, 0);
         // 0 and 1: 15 more; 0 and 2: 6 more; 1 and 2: 6 more; three more with gloves; 180 now
@@ -573,6 +598,8 @@ public final class PromisesTest {
         PalmsAltered x = new PalmsAltered();
         due("none", x.mean(0, 0), no);
         x.hand(0, 0, 10);
+        due("one alone", x.mean(0, 0), 30);
+        due("one alone", x.mean(0, 1), 1);
         x.hand(3, 0, 9);
         x.set(1, 0, 11);
         // 30 and 29 now; 27 and 29 tomorrow; 24 and 26 the day after
@@ -630,6 +657,10 @@ public final class PromisesTest {
         due("nothing changed", x.told(0), 0);
         build(x, "bless 10 d=2&h=0");
         due("grace on that day", x.ends(0), 13 + 28 + 28 + 78 + 87 + 3 + 5 + 30);
+        x.fair(-1, 0);
+        due("nothing goes any more", x.ends(1), 250);
+        x.fair(5, 0);
+        due("a day alone", x.ends(1), 250 - 3 - 6);
     }
 
     private static void judging() {

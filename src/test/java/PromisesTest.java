@@ -212,19 +212,32 @@ public final class PromisesTest {
 
     private static void boothing() {
         promise = 10;
-        PalmsAltered x = with(0);
+        endsTooEarly();
+        faults();
+        clauses();
+        sixBooths();
+        meanings();
+    }
+
+    private static void endsTooEarly() {
         String[] faulty = {
             "", "b", "bl", "bless", "bless ", "bless 1", "bless 1 ", "bless 1 h", "bless 1 h=", "bless 1 (h=1",
             "bless 1 !", "bless 1 h=1&", "bless 1 h=1|", "bless 1 h=1;", "room", "room ", "press", "blight 12"};
+        PalmsAltered x = with(0);
         for (String text : faulty) due("'" + text + "' that ends too early", build(x, text), -10 - text.length());
-        for (int n = faulty.length - 1; n >= 0; n--) {
-            for (int size = faulty[n].length(); size >= 0; size--) {
-                String text = faulty[n].substring(0, size);
+        for (String whole : faulty) {
+            PalmsAltered y = with(0);
+            for (int size = whole.length(); size >= 0; size--) {
+                String text = whole.substring(0, size);
                 if (!text.equals("bless 1 h=1")) {
-                    due("'" + text + "' behind a longer one", build(x, text), -10 - size);
+                    due("'" + text + "' behind a longer one", build(y, text), -10 - size);
                 }
             }
         }
+        due("100 bytes that end too early", build(with(0), "bless 1 " + "h=9|".repeat(22) + "h=0|"), -10 - 100);
+    }
+
+    private static void faults() {
         Object[][] faults = {
             {"x", 0}, {" room 1", 0}, {"Bless 1 h=1", 0}, {"bx", 1}, {"blx", 2}, {"blish", 3}, {"blesx", 4},
             {"bless1 h=1", 5}, {"bless  1 h=1", 6}, {"bless x h=1", 6}, {"bless 1h=1", 7}, {"bless 123 h=1", 8},
@@ -232,29 +245,39 @@ public final class PromisesTest {
             {"bless 1 h=1 ", 11}, {"bless 1 h=1)", 11}, {"bless 1 (h=1;room 1", 12}, {"bless 1 ()", 9},
             {"bless 1 h=1&|", 12}, {"bless 1 h=1||h=1", 12}, {"bless 1 !!!!!h=1", 12}, {"bless 1 (((((h=1", 12},
             {"bless 1 !(!(!", 12}, {"bless 1 !(!((", 12}, {"bless 1 h!1", 9}, {"bless 1 h==1", 10},
-            {"room 1 h=1", 6}, {"room 123", 7}, {"room x", 5}, {"room :", 5}, {"room 1:", 6}, {"room 1/", 6}, {"room /", 5}, {"rroom 1", 1}, {"press 1;", 8}, {"press 1,", 7},
-            {"press 1;;", 8}, {"prose 1", 2}, {"press -1", 6}};
-        for (Object[] fault : faults) due("'" + fault[0] + "'", build(x, (String) fault[0]), -10 - (Integer) fault[1]);
-        due("none so far", x.count(1), 0);
-        due("no room so far", x.told(1), 20);
+            {"room 1 h=1", 6}, {"room 123", 7}, {"room x", 5}, {"room :", 5}, {"room 1:", 6}, {"room 1/", 6},
+            {"room /", 5}, {"rroom 1", 1}, {"press 1;", 8}, {"press 1,", 7}, {"press 1;;", 8}, {"prose 1", 2},
+            {"press -1", 6}};
+        for (Object[] fault : faults) {
+            PalmsAltered x = with(0);
+            due("'" + fault[0] + "'", build(x, (String) fault[0]), -10 - (Integer) fault[1]);
+            due("no booth", x.count(1), 0);
+            due("no room of it", x.told(1), 20);
+        }
+    }
+
+    private static void clauses() {
+        PalmsAltered x = with(0);
         due("ten clauses", build(x, "room 1;room 2;room 3;room 4;room 5;room 6;room 7;room 8;room 9;room 47"), 0);
         due("the last one's room", x.told(1), 47);
         due("eleven clauses", build(x, "press 1;room 2;room 3;room 4;room 5;room 6;room 7;room 8;room 9;room 1;"), -10 - 70);
         due("a third digit behind ten", build(x, "press 1;room 2;room 3;room 4;room 5;room 6;room 7;room 8;room 9;room 100"), -10 - 71);
         due("the one that held holds", x.told(1), 47);
         due("the text is empty", x.count(5), 0);
-        String many = "h=9|".repeat(22);
-        due("100 bytes that end too early", build(x, "bless 1 " + many + "h=0|"), -10 - 100);
-        due("100 bytes", build(x, "bless 11 " + many + "h=0"), 1);
+        due("100 bytes", build(x, "bless 11 " + "h=9|".repeat(22) + "h=0"), 1);
         due("their grace", x.of(0, 20), 11);
-        due("four about it", build(x, "bless 1 !!!!h=1&((((h=0))))|!(!(h>99))"), 2);
+    }
+
+    private static void sixBooths() {
+        PalmsAltered x = with(0);
+        due("a room", build(x, "room 47"), 0);
+        due("four about it", build(x, "bless 1 !!!!h=1&((((h=0))))|!(!(h>99))"), 1);
         due("without its room", x.told(1), 20);
-        for (int n = 3; n < 6; n++) due("booth", build(x, "bless 0" + n + " h=0"), n);
+        for (int n = 2; n < 6; n++) due("booth", build(x, "bless 0" + n + " h=0"), n);
         due("grace", x.of(0, 20), 5);
         due("a seventh", build(x, "x"), -4);
         due("the text stays", x.count(5), 1);
         due("how many", x.count(1), 6);
-        meanings();
     }
 
     private static void meanings() {

@@ -46,6 +46,11 @@ public final class AskedBoundaryTest extends Sentences {
         x.ink(99);
         lengths(x, 1, 20, 20, 5);
         due("milky", x.pen(1, 9), 0);
+        lengths(x, 0, 0, 0, 0);
+        build(x, "blight 9 l<2;room 1");
+        due("from no fortune to 1", x.pen(0, 9), 2);
+        build(x, "blight 9 l<3;room 1");
+        due("no fortune at all", x.pen(0, 9), 0);
         build(x, "blight 50 x>10");
         lengths(x, 0, 10, 20, 10);
         due("where it is not less", x.pen(0, 1), 1);
@@ -784,6 +789,28 @@ public final class AskedBoundaryTest extends Sentences {
             due(n + " days", x.ends(0), 180 - 3 * n + left + 3);
         }
         due("no hands", new PalmsAltered().ends(0), 0);
+    }
+
+    @Of(promise = 27, says = "ENDS: what 0 FORTUNE of all, 1 LENGTH of all.")
+    private static void promise27ShakesAndDays() {
+        PalmsAltered x = with(0, 1, 0, 6);
+        lengths(x, 1, 0, 2, 50);
+        x.fair(1, 2);
+        // by 4: 7, 7 and, of the hand 2, 5
+        due("a shake", x.ends(1), 90 + 7 + 9 + 50 + 95 + 90);
+        due("a shake", x.ends(0), 90 + 7 + 9 + 50 + 95 + 90 + 5);
+        x.fair(1, 3);
+        due("a shake through gloves", x.ends(1), 90 + 66 + 95 + 90);
+        x.fair(5, 9);
+        // hand 0: 29 each; hand 1: 5, 7, 48; hand 2: 29, 29, 34; hand 3 does not fade on day 0
+        due("a day", x.ends(1), 87 + 60 + 92 + 90);
+        x.fair(0, 1);
+        // 24 by 4, 22 by 4, and 19 by 4 for hand 0
+        due("another shake", x.ends(1), 87 + 60 + 92 + 90 + 6 + 5 + 4);
+        due("another shake", x.ends(0), 87 + 60 + 92 + 90 + 6 + 5 + 4 + 5);
+        x.fair(-1, 0);
+        x.fair(0, 1);
+        due("that shake alone", x.ends(1), 90 + 52 + 90 + 90 + 7 + 7 + 5);
     }
 
     @Of(promise = 27, says = "goes on from how all is (DAYS beyond 9999, too), and changes nothing.")

@@ -503,6 +503,13 @@ public final class HandsBoundaryTest extends Sentences {
                 for (int hand = 0; hand < 2; hand++) due("shook all the same", x.of(hand, 2), 2);
             }
         }
+        PalmsAltered y = with(3, 6, 6);
+        y.set(0, 0, 2);
+        y.set(1, 1, 2);
+        due("both", y.shake(0, 1), 0);
+        due("both", y.shake(1, 2), 0);
+        due("as it was", y.of(0, 10), 2);
+        due("shook", y.of(1, 2), 2);
     }
 
     @Of(promise = 8, says = "SHOOK (how often, 0 .. 9999; 0 at first).")
@@ -692,6 +699,9 @@ public final class HandsBoundaryTest extends Sentences {
             due(word + ": two blanks", build(x, word + "  1"), -10 - size - 1);
             due(word + ": no digit", build(x, word + " ;"), -10 - size - 1);
             due(word + ": a sign", build(x, word + " -1"), -10 - size - 1);
+            due(word + ": what is just ahead of 0", build(x, word + " /"), -10 - size - 1);
+            due(word + ": what is just behind 9", build(x, word + " :"), -10 - size - 1);
+            due(word + ": and as the second", build(x, word + " 9:"), -10 - size - 2);
             due(word + ": three digits", build(x, word + " 012 h=0"), -10 - size - 3);
         }
         due("no blank ahead of E", build(x, "bless 1h=0"), -17);
@@ -720,6 +730,9 @@ public final class HandsBoundaryTest extends Sentences {
         due("three digits", build(x, "bless 1 x=060"), -10 - 12);
         due("no digit", build(x, "bless 1 x="), -20);
         due("a sign", build(x, "bless 1 x=-1"), -20);
+        due("what is just ahead of 0", build(x, "bless 1 x=/"), -20);
+        due("what is just behind 9", build(x, "bless 1 x=:"), -20);
+        due("and as the second", build(x, "bless 1 x=9:"), -21);
         due("two relations", build(x, "bless 1 x<=9"), -20);
         due("no relation", build(x, "bless 1 x9"), -19);
         due("another letter", build(x, "bless 1 y=9"), -18);
@@ -732,6 +745,55 @@ public final class HandsBoundaryTest extends Sentences {
         due("length 60", x.of(1, 20), 1 + 8);
         x.set(1, 0, 0);
         due("length 0", x.of(1, 20), 1);
+    }
+
+    @Of(promise = 10, says = "of a HAND and a LINE h the number of the one, l of the other, k its KIND, v its v, x LENGTH of the LINE, d DAY modulo 10.")
+    private static void promise10TheLetters() {
+        // hand 3, line 2, kind 2, v 7, length 60, day 5
+        char[] letters = {'h', 'l', 'k', 'v', 'x', 'd'};
+        int[] values = {3, 2, 2, 7, 60, 5};
+        for (int n = 0; n < letters.length; n++) {
+            for (int number = values[n] - 1; number <= values[n] + 1; number++) {
+                for (String relation : new String[] {"<", "=", ">"}) {
+                    PalmsAltered x = with(0, 1, 4);
+                    x.hand(2, 7, 4);
+                    x.pass(25);
+                    x.set(3, 2, 60);
+                    String test = letters[n] + relation + number;
+                    build(x, "bless 11 " + test);
+                    int compared = Integer.compare(values[n], number);
+                    boolean so = compared < 0 && relation.equals("<") || compared == 0 && relation.equals("=")
+                        || compared > 0 && relation.equals(">");
+                    due("grace by " + test, x.of(3, 22), so ? 11 : 0);
+                }
+            }
+        }
+    }
+
+    @Of(promise = 10, says = "E: T or T|E. T: F or F&T. F: !F, (E), or a TEST")
+    private static void promise10WhatJoinsTests() {
+        String[] tests = {"h=9", "h=0"};
+        for (int n = 0; n < 16; n++) {
+            boolean a = (n & 1) != 0, b = (n & 2) != 0, c = (n & 4) != 0, d = (n & 8) != 0;
+            String[] t = {tests[n & 1], tests[n >> 1 & 1], tests[n >> 2 & 1], tests[n >> 3 & 1]};
+            Object[][] whole = {
+                {t[0] + "|" + t[1] + "|" + t[2], a | b | c}, {t[0] + "&" + t[1] + "&" + t[2] + "&" + t[3], a & b & c & d},
+                {t[0] + "|" + t[1] + "&" + t[2] + "|" + t[3], a | b & c | d}, {t[0] + "&" + t[1] + "|" + t[2] + "&" + t[3], a & b | c & d},
+                {"!" + t[0] + "&" + t[1] + "|!" + t[2], !a & b | !c}, {"!(" + t[0] + "|" + t[1] + ")&" + t[2], !(a | b) & c},
+                {"(" + t[0] + "|" + t[1] + ")&(" + t[2] + "|!" + t[3] + ")", (a | b) & (c | !d)},
+                {"!" + t[0] + "|!(" + t[1] + "&!(" + t[2] + "|" + t[3] + "))", !a | !(b & !(c | d))}};
+            PalmsAltered x = with(0);
+            StringBuilder all = new StringBuilder();
+            for (int m = 0; m < 3; m++) all.append(m == 0 ? "" : ";").append("bless ").append(1 << m).append(' ').append(whole[m][0]);
+            due("three", build(x, all.toString()), 0);
+            int grace = 0;
+            for (int m = 0; m < 3; m++) if ((Boolean) whole[m][1]) grace += 1 << m;
+            due("grace by " + all, x.of(0, 20), grace);
+            for (int m = 3; m < whole.length; m++) {
+                due((String) whole[m][0], build(x, "blight 7 " + whole[m][0]), m - 2);
+                due("grace by " + whole[m][0], x.of(0, 20), (Boolean) whole[m][1] ? -7 : 0);
+            }
+        }
     }
 
     @Of(promise = 10, says = "A ( or ! within 4 others is none.")
@@ -928,6 +990,27 @@ public final class HandsBoundaryTest extends Sentences {
         due("60, all", x.on(60, 0), 90);
         due("60, the second", x.on(60, 11), 90);
         due("60, its last line", x.on(60, 25), 30);
+    }
+
+    @Of(promise = 13, says = "ON: what 0 FORTUNE of all, 10 and h FORTUNE of HAND h, 20 and 3 times h and l LENGTH of LINE l of HAND h.")
+    private static void promise13EachWhat() {
+        PalmsAltered x = new PalmsAltered();
+        for (int hand = 0; hand < 5; hand++) {
+            x.hand(hand % 2 == 0 ? 0 : 1, hand, 0);
+            lengths(x, hand, 10 * hand + 3, 10 * hand + 6, 10 * hand + 9);
+        }
+        int all = 0;
+        for (int hand = 0; hand < 5; hand++) {
+            int fortune = hand % 2 == 0 ? 0 : hand;
+            for (int line = 0; line < 3; line++) {
+                int length = Math.max(0, 10 * hand + 3 * line + 3 - (hand % 2 == 0 ? 4 : 8));
+                due("line " + line + " of hand " + hand, x.on(4, 20 + 3 * hand + line), length);
+                fortune += length;
+            }
+            due("fortune of hand " + hand, x.on(4, 10 + hand), fortune);
+            all += fortune;
+        }
+        due("fortune of all", x.on(4, 0), all);
     }
 
     @Of(promise = 13, says = "goes on from how all is (DAYS beyond 9999, too), and changes nothing.")

@@ -195,15 +195,20 @@ public final class HostBoundaryTest extends Sentences {
         lengths(x, 1, 60, 0, 8);
         build(x, "room 61;press 0");
         x.image();
+        int ends = x.ends(1);
         x.fair(-1, 0);
+        for (int n = 1; n <= 10; n++) x.fair(1, 2);
         x.book(-1, 0, 0);
+        for (int n = 1; n <= 8; n++) x.book(2, 1, 60 - n);
         x.see(-1, 0, 0, 0);
+        for (int n = 1; n <= 5; n++) x.see(2, 1, 60 - n, n + 1);
         x.row(0, 3, 0);
         x.shake(3, 1);
         x.ink(999);
         x.pass(60);
         build(x, "room 1;press 9");
         due("undo", x.undo(), 5);
+        due("what goes", x.ends(1), ends);
         due("a sixth hand", x.hand(0, 0, 0), FULL);
         due("an eleventh of the fair", x.fair(0, 1), FULL);
         due("a ninth of the book", x.book(0, 0, 0), FULL);
@@ -220,6 +225,60 @@ public final class HostBoundaryTest extends Sentences {
         due("the book's rows", x.looked(), 1);
         due("what is seen", x.was(1, 0, 0), 1);
         due("what is seen", x.was(1, 0, 1), 30);
+    }
+
+    @Of(promise = 30, says = "THE IMAGE: HANDS with all that is theirs, INK, DAY, SEEN, the FAIR, the BOOK")
+    private static void promise30EachRowOfTheBookSeenAndTheFair() {
+        PalmsAltered x = with(0, 0, 3);
+        for (int n = 0; n < 7; n++) x.book(n % 2, n % 3, 30);
+        x.book(1, 1, 29);
+        for (int n = 0; n < 4; n++) x.see(0, 0, 30 - n, n);
+        x.see(0, 0, 10, 20);
+        for (int n = 0; n < 9; n++) x.fair(0, 2);
+        x.fair(5, 0);
+        x.image();
+        x.book(-1, 0, 0);
+        x.see(-1, 0, 0, 0);
+        x.fair(-1, 0);
+        for (int n = 0; n < 8; n++) x.book(2, 2, 7);
+        for (int n = 0; n < 5; n++) x.see(2, 2, 7, 7);
+        for (int n = 0; n < 10; n++) x.fair(5, 7);
+        x.undo();
+        due("the book's last row", x.looked(), 7);
+        x.set(1, 1, 29);
+        due("its second", x.looked(), 1);
+        due("what is seen", x.was(0, 0, 1), 30);
+        due("what is seen", x.was(0, 0, 0), 1);
+        due("nine shakes and a day", x.ends(1), 270 - 1 - 6);
+    }
+
+    @Of(promise = 30, says = "which BOOTH holds.")
+    private static void promise30WhichBoothHoldsAlone() {
+        PalmsAltered x = with(0);
+        x.image();
+        for (int n = 0; n < 6; n++) build(x, "room " + n + ";press 9;bless 9 h=0");
+        x.tape(0, BYTES, 1);
+        x.item(0, 0, 9);
+        x.act(0, 1, 7);
+        x.feed('r');
+        due("undo", x.undo(), 1);
+        due("none holds", x.told(1), 20);
+        due("none holds", x.told(2), 4);
+        due("none holds", x.of(0, 20), 0);
+        due("there are 6 for all that", x.count(1), 6);
+        due("so that a seventh is refused", x.booth(), FULL);
+        due("the text stays", x.count(5), 1);
+        due("the tape stays", x.read(0, 0), 9);
+        due("the trace stays", x.count(6), 2);
+        PalmsAltered y = with(0);
+        build(y, "room 7");
+        y.image();
+        due("a newer one", build(y, "room 8"), 1);
+        due("a faulty one", build(y, "room"), -14);
+        y.undo();
+        due("the older one holds", y.told(1), 7);
+        due("the next one's number", build(y, "room 9"), 2);
+        due("it holds", y.told(1), 9);
     }
 
     // ---- promise 31: act
